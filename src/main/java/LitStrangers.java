@@ -37,7 +37,6 @@ public final class LitStrangers {
     private final Coast now;
     private final Coast before = new Coast();
     private final Coast[] images = new Coast[IMAGES];
-    private final boolean[] kept = new boolean[IMAGES];
     private final Reader reader = new Reader();
     private final Judge judge;
     private final Log log;
@@ -65,9 +64,6 @@ public final class LitStrangers {
         runner = new Runner(coast, itsDeeds);
         paper = itsPaper;
         search = new Search(itsPaper);
-        for (int k = 0; k < IMAGES; k++) {
-            images[k] = new Coast();
-        }
     }
 
     public int person(int road, int land) {
@@ -289,7 +285,7 @@ public final class LitStrangers {
 
     public int last(int i) {
         paper.prepare();
-        int nights = search.longest(paper.people, 0, PEOPLE);
+        int nights = search.longest(paper.people);
         return i == NONE ? nights : search.crewOf(i, nights);
     }
 
@@ -342,8 +338,8 @@ public final class LitStrangers {
             return NONE;
         }
         paper.prepare();
-        int all = search.longest(paper.people, 0, PEOPLE);
-        return all - search.longest(paper.people & ~now.peopleOf(land), 0, PEOPLE);
+        int all = search.longest(paper.people);
+        return all - search.longest(paper.people & ~now.peopleOf(land));
     }
 
     public int harm(int person) {
@@ -381,7 +377,7 @@ public final class LitStrangers {
         int bits = 0;
         for (int p = 0; p < now.size; p++) {
             int bit = 1 << p;
-            if ((paper.people & bit) != 0 && search.longest(paper.people & ~bit, 0, PEOPLE) == n) {
+            if ((paper.people & bit) != 0 && search.longest(paper.people & ~bit) == n) {
                 bits |= bit;
             }
         }
@@ -405,8 +401,10 @@ public final class LitStrangers {
         if (k < 0 || k >= IMAGES) {
             return refuse(BAD_NUMBER);
         }
+        if (images[k] == null) {
+            images[k] = new Coast();
+        }
         images[k].copyFrom(now);
-        kept[k] = true;
         return accept(0);
     }
 
@@ -414,10 +412,11 @@ public final class LitStrangers {
         if (k < 0 || k >= IMAGES) {
             return refuse(BAD_NUMBER);
         }
-        if (!kept[k]) {
+        Coast kept = images[k];
+        if (kept == null) {
             return refuse(NO_SUCH);
         }
-        now.copyFrom(images[k]);
+        now.copyFrom(kept);
         log.clear();
         return accept(0);
     }
@@ -1371,6 +1370,8 @@ public final class LitStrangers {
         private final int[] price = new int[PEOPLE];
         private final int[] spoilsSome = new int[PEOPLE];
         private final int[] spoilsAll = new int[PEOPLE];
+        private final int[] wants = new int[PEOPLE];
+        private final int[] arrived = new int[PEOPLE];
         private final int[] freshFree = new int[PEOPLE];
         private final int[] wornFree = new int[PEOPLE];
         private final int[] lists = new int[PEOPLE * CREWS];
@@ -1406,6 +1407,8 @@ public final class LitStrangers {
             }
             for (int night = 0; night < coast.size; night++) {
                 int fog = coast.fogOn(coast.term[DAY] + night);
+                wants[night] = wanted(fog);
+                arrived[night] = comeBy(night);
                 freshFree[night] = freeOn(night, fog, 0);
                 wornFree[night] = freeOn(night, fog, 1);
             }
@@ -1437,15 +1440,32 @@ public final class LitStrangers {
             return lands;
         }
 
+        /** Those who spoil somebody who has not been there, or can be spoilt. */
+        int thoseWhoMatter() {
+            int bits = 0;
+            for (int p = 0; p < coast.size; p++) {
+                int spoilt = (people >> p & 1) != 0 ? spoilsSome[p] & people : 0;
+                bits |= spoilt == 0 ? 0 : spoilt | 1 << p;
+            }
+            return bits;
+        }
+
         int sets() {
             return 1 << Math.max(0, Math.min(PEOPLE, coast.size));
         }
 
-        /** How many nights those left could light at most, by their worth alone. */
-        int nightsIn(int rest, int heardThen) {
-            int two = rest & ~heardThen;
-            int one = rest & heardThen & ~(heardThen >> PEOPLE);
-            return (2 * Integer.bitCount(two) + Integer.bitCount(one)) / 2;
+        /** How many nights from this one on the rest could light at most, by their worth and when they come. */
+        int nightsFrom(int night, int rest, int heardThen) {
+            int fresh = rest & ~heardThen;
+            int worn = rest & heardThen & ~(heardThen >> PEOPLE);
+            int wanted = 0;
+            for (int k = night; k >= 0 && k < coast.size; k++) {
+                wanted += wants[k];
+                if (2 * Integer.bitCount(fresh & arrived[k]) + Integer.bitCount(worn & arrived[k]) < wanted) {
+                    return k - night;
+                }
+            }
+            return Math.max(0, coast.size - night);
         }
 
         /** What is heard, when a crew has lit it and some are hushed; the order in the crew does not matter. */
@@ -1469,7 +1489,7 @@ public final class LitStrangers {
             }
             twos = rest & freshFree[night] & ~heardThen;
             ones = rest & wornFree[night] & heardThen & ~(heardThen >> PEOPLE);
-            return fill(night, wanted(coast.fogOn(coast.term[DAY] + night)));
+            return fill(night, wants[night]);
         }
 
         int crewAt(int night, int i) {
@@ -1520,6 +1540,14 @@ public final class LitStrangers {
                 spoilsSome[person] |= by > 0 ? 1 << other : 0;
                 spoilsAll[person] |= by >= MOST_HEARD ? 1 << other : 0;
             }
+        }
+
+        private int comeBy(int night) {
+            int bits = 0;
+            for (int p = 0; p < coast.size; p++) {
+                bits |= come[p] <= night ? 1 << p : 0;
+            }
+            return bits;
         }
 
         private int freeOn(int night, int fog, int ifHeard) {
@@ -1583,14 +1611,15 @@ public final class LitStrangers {
         private int limit;
         private int best;
         private boolean paying;
+        private boolean aiming;
         private boolean turning;
 
         Search(Paper paper) {
             this.paper = paper;
         }
 
-        int longest(int among, int silent, int atMost) {
-            set(among, silent, atMost);
+        int longest(int among) {
+            set(among, 0, PEOPLE);
             climb(0, 0, paper.heard, 0);
             return best;
         }
@@ -1598,6 +1627,7 @@ public final class LitStrangers {
         int cheapest(int n) {
             set(paper.people, 0, n);
             paying = true;
+            aiming = true;
             best = UNPAID;
             climb(0, 0, paper.heard, 0);
             return best == UNPAID ? NONE : best;
@@ -1616,7 +1646,7 @@ public final class LitStrangers {
         }
 
         int latestOf(int person) {
-            int nights = longest(paper.people, 0, PEOPLE);
+            int nights = longest(paper.people);
             set(paper.people, 0, nights);
             Arrays.fill(fine, 0);
             Arrays.fill(latest, NONE);
@@ -1624,15 +1654,18 @@ public final class LitStrangers {
             return person >= 0 && person < PEOPLE ? latest[person] : NONE;
         }
 
-        /** In how many ways so few can be hushed; the lowest of them is kept. */
+        /**
+         * In how many ways so few can be hushed, if fewer did not do; the lowest of them is kept. To hush one who
+         * matters to nobody does no more than to hush the others alone.
+         */
         int hushings(int n, int few) {
+            int matter = paper.thoseWhoMatter();
             int found = 0;
             for (int bits = 0; bits < paper.sets(); bits++) {
-                if (Integer.bitCount(bits) != few || longest(paper.people, bits, n) < n) {
-                    continue;
+                if (Integer.bitCount(bits) == few && (bits & ~matter) == 0 && canReach(n, bits)) {
+                    lowest = found == 0 ? bits : lowest;
+                    found++;
                 }
-                lowest = found == 0 ? bits : lowest;
-                found++;
             }
             return found;
         }
@@ -1659,6 +1692,13 @@ public final class LitStrangers {
             return sum;
         }
 
+        private boolean canReach(int n, int silent) {
+            set(paper.people, silent, n);
+            aiming = true;
+            climb(0, 0, paper.heard, 0);
+            return best >= n;
+        }
+
         private void spread(int night, int been) {
             int many = paper.list(night, paper.people & ~been, paper.spoiled(paper.heard, been, 0));
             for (int i = 0; i < many; i++) {
@@ -1672,6 +1712,7 @@ public final class LitStrangers {
             limit = Math.min(PEOPLE, atMost);
             best = 0;
             paying = false;
+            aiming = false;
             turning = false;
             Arrays.fill(seen, 0);
         }
@@ -1706,11 +1747,11 @@ public final class LitStrangers {
             if (night >= limit) {
                 return true;
             }
-            int hope = night + paper.nightsIn(people & ~been, heard);
-            if (paying) {
-                return hope < limit || paper.priceOf(been) >= best;
+            int hope = night + paper.nightsFrom(night, people & ~been, heard);
+            if (aiming && hope < limit) {
+                return true;
             }
-            return best >= limit || hope <= best;
+            return paying ? paper.priceOf(been) >= best : best >= limit || hope <= best;
         }
 
         private boolean isSeen(int night, int been, int lands) {
