@@ -15,6 +15,7 @@ public final class PaperTest {
         who();
         winter();
         images();
+        imagesApart();
         counts();
         tenPeople();
         D.close();
@@ -108,6 +109,14 @@ public final class PaperTest {
         due("late(-1)", -1, x.late(-1));
         x.person(30, 0);
         due("in no row", -1, x.late(3));
+        LitStrangers y = coast(0, 0, 1);
+        Due.rule(y, "spoils 2 if person = 0;spoils 0 if person > 0");
+        due("late(1)", 2, y.late(1));
+        // now 0 can only come behind 2, so 1 must be the first
+        y.talk(0, 2, 1);
+        due("late(0)", 2, y.late(0));
+        due("late(1)", 0, y.late(1));
+        due("late(2)", 1, y.late(2));
     }
 
     private static void swaps() {
@@ -206,6 +215,23 @@ public final class PaperTest {
         due("the lowest", 3, x.hush(3, 1));
         due("in three ways", 3, x.hush(3, 2));
         due("state stays", 3, x.count(1));
+        hushOneWay();
+    }
+
+    /** One spoils the other, who does not spoil back: either may be hushed. */
+    private static void hushOneWay() {
+        LitStrangers x = coast(0, 1);
+        Due.rule(x, "spoils 2;spoils 0 if person = 1");
+        x.talk(0, 1, 1);
+        due("hush(2)", 1, x.hush(2, 0));
+        due("hush(2)", 1, x.hush(2, 1));
+        due("hush(2)", 2, x.hush(2, 2));
+        LitStrangers y = coast(1, 0);
+        Due.rule(y, "spoils 2;spoils 0 if person = 0");
+        y.talk(0, 1, 1);
+        due("hush(2)", 1, y.hush(2, 1));
+        due("hush(2)", 2, y.hush(2, 2));
+        due("hush(3)", -1, y.hush(3, 0));
     }
 
     private static void who() {
@@ -308,6 +334,27 @@ public final class PaperTest {
         x.dark();
         due("a refused back", -1, x.back(3));
         due("leaves what can be undone", 2, x.undo());
+    }
+
+    /** People and laws of the same numbers are others in each image. */
+    private static void imagesApart() {
+        LitStrangers x = new LitStrangers();
+        x.image(0);
+        x.person(5, 1);
+        Due.rule(x, "lodges 7");
+        x.image(1);
+        x.back(0);
+        x.person(9, 2);
+        Due.rule(x, "lodges 8");
+        x.image(0);
+        x.back(1);
+        due("road", 5, x.of(0, 0));
+        due("land", 1, x.of(0, 1));
+        due("law", 7, x.asks(0, 0, 2));
+        x.back(0);
+        due("road", 9, x.of(0, 0));
+        due("land", 2, x.of(0, 1));
+        due("law", 8, x.asks(0, 0, 2));
     }
 
     private static void counts() {

@@ -294,6 +294,12 @@ public final class PeopleTest {
         due("crew", 12, x.crews(2));
         due("4 in fog", 4, x.light(12));
         due("the next night", 2, x.light(2));
+        LitStrangers all = new LitStrangers();
+        for (int p = 0; p < 10; p++) {
+            all.person(0, 0);
+            all.send(p);
+        }
+        due("all ten", 20, all.light(1023));
     }
 
     private static void spoiling() {

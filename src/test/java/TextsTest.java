@@ -101,6 +101,7 @@ public final class TextsTest {
         noLaw(";takes 5", 0);
         noLaw(" Takes 5", 1);
         noLaw("takesx 5", 0);
+        noLaw("takesz 5", 0);
         noLaw("takes 1001", 6);
         noLaw("takes 99999999999999999999", 6);
         noLaw("takes -5", 6);
