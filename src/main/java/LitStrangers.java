@@ -1358,7 +1358,7 @@ public final class LitStrangers {
      * heard something, and, PEOPLE bits higher, of those who have heard all.
      */
     private static final class Paper {
-        /** More crews than ten people can make: four of worth 1 out of ten. */
+        /** As many as ten people can make at most: four of worth 1 out of ten. */
         private static final int CREWS = 210;
         private static final int NEVER = 1_000_000;
 
@@ -1409,8 +1409,8 @@ public final class LitStrangers {
                 int fog = coast.fogOn(coast.term[DAY] + night);
                 wants[night] = wanted(fog);
                 arrived[night] = comeBy(night);
-                freshFree[night] = freeOn(night, fog, 0);
-                wornFree[night] = freeOn(night, fog, 1);
+                freshFree[night] = freeOn(night, fog, 0, people & ~heard);
+                wornFree[night] = freeOn(night, fog, 1, people & ~(heard >> PEOPLE));
             }
         }
 
@@ -1505,8 +1505,8 @@ public final class LitStrangers {
             for (int night = 0; night < n && night < crews.length; night++) {
                 s = (s * 1103 + 12345) % 1_000_003;
                 int fog = s % 10 < coast.term[FOGGY] ? 1 : 0;
-                twos = rest & freeOn(night, fog, 0) & ~heardThen;
-                ones = rest & freeOn(night, fog, 1) & heardThen & ~(heardThen >> PEOPLE);
+                twos = freeOn(night, fog, 0, rest & ~heardThen);
+                ones = freeOn(night, fog, 1, rest & heardThen & ~(heardThen >> PEOPLE));
                 int crew = fill(0, wanted(fog)) > 0 ? lists[0] : 0;
                 crews[night] = crew;
                 lit += crew == 0 ? 0 : 1;
@@ -1550,10 +1550,11 @@ public final class LitStrangers {
             return bits;
         }
 
-        private int freeOn(int night, int fog, int ifHeard) {
+        private int freeOn(int night, int fog, int ifHeard, int among) {
+            int day = coast.term[DAY] + night;
             int bits = 0;
             for (int p = 0; p < coast.size; p++) {
-                if (come[p] <= night && !judge.bars(p, ifHeard, coast.term[DAY] + night, fog)) {
+                if ((among >> p & 1) != 0 && come[p] <= night && !judge.bars(p, ifHeard, day, fog)) {
                     bits |= 1 << p;
                 }
             }
