@@ -2,7 +2,12 @@ import java.nio.charset.StandardCharsets;
 
 /** What the tests share: answers that are due, and texts put on the tape. */
 final class Due {
+    static final int NONE = -1;
+
     private final String test;
+    private final int[] askedOf = new int[38];
+    private int promise;
+    private String sentence = "";
     private int asked;
     private int wrong;
 
@@ -10,11 +15,28 @@ final class Due {
         this.test = test;
     }
 
+    /** What is due from here on is that promise's, by that sentence of the document. */
+    void promise(int number, String itsSentence) {
+        promise = number;
+        sentence = "promise " + number + " (" + itsSentence + "): ";
+    }
+
     void due(String what, long want, long got) {
         asked++;
+        askedOf[promise]++;
         if (want != got) {
             wrong++;
-            System.out.println(test + ": " + what + " answered " + got + ", due is " + want);
+            System.out.println(test + ": " + sentence + what + " answered " + got + ", due is " + want);
+        }
+    }
+
+    /** A test that is to go through some promises fails, if it names one of them nowhere. */
+    void covers(int first, int last) {
+        for (int number = first; number <= last; number++) {
+            if (askedOf[number] == 0) {
+                wrong++;
+                System.out.println(test + ": nothing is asked of promise " + number);
+            }
         }
     }
 
@@ -23,6 +45,14 @@ final class Due {
         if (wrong != 0) {
             System.exit(1);
         }
+    }
+
+    static String many(String text, int times) {
+        StringBuilder b = new StringBuilder();
+        for (int i = 0; i < times; i++) {
+            b.append(text);
+        }
+        return b.toString();
     }
 
     static void put(LitStrangers x, byte[] bytes) {
@@ -55,5 +85,23 @@ final class Due {
     /** A law that is made and in force. */
     static void rule(LitStrangers x, String text) {
         x.force(law(x, text));
+    }
+
+    /** People of these roads, of the lands 0, 1, 2, 3, 0 and so on. */
+    static LitStrangers coast(int... roads) {
+        LitStrangers x = new LitStrangers();
+        for (int i = 0; i < roads.length; i++) {
+            x.person(roads[i], i % 4);
+        }
+        return x;
+    }
+
+    /** So many people of road 0 who are here. */
+    static LitStrangers here(int people) {
+        LitStrangers x = coast(new int[people]);
+        for (int p = 0; p < people; p++) {
+            x.send(p);
+        }
+        return x;
     }
 }

@@ -26,11 +26,7 @@ public final class PaperTest {
     }
 
     private static LitStrangers coast(int... roads) {
-        LitStrangers x = new LitStrangers();
-        for (int i = 0; i < roads.length; i++) {
-            x.person(roads[i], i % 4);
-        }
-        return x;
+        return Due.coast(roads);
     }
 
     private static void rows() {

@@ -22,11 +22,7 @@ public final class TextsTest {
     }
 
     private static String many(String text, int times) {
-        StringBuilder b = new StringBuilder();
-        for (int i = 0; i < times; i++) {
-            b.append(text);
-        }
-        return b.toString();
+        return Due.many(text, times);
     }
 
     private static void tape() {
