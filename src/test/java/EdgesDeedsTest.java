@@ -22,11 +22,13 @@ public final class EdgesDeedsTest {
         lightWho();
         lightDays();
         lightSpoils();
+        lightSpoilsTen();
         lightLodges();
         dark();
         darkArrivals();
         undoKinds();
         undoSixteen();
+        undoAll();
         undoCut();
         undoNotCut();
         D.covers(16, 21);
@@ -626,5 +628,62 @@ public final class EdgesDeedsTest {
         due("TALKS stay", 1, x.count(1));
         due("FOG stays", 1, x.fog(0, 1));
         due("the LAW stays", 0, x.count(13));
+    }
+
+    private static void lightSpoilsTen() {
+        D.promise(19, "all others who TALK to that one, the first and the last of ten too");
+        LitStrangers x = Due.here(10);
+        x.talk(0, 5, 1);
+        x.talk(9, 5, 1);
+        x.light(1 << 5);
+        for (int p = 0; p < 10; p++) {
+            due("HEARD of " + p, p == 0 || p == 9 ? 1 : 0, x.of(p, 2));
+        }
+        due("the last lights it with the first", 2, x.light(513));
+        due("who has BEEN there has HEARD no more", 0, x.of(5, 2));
+    }
+
+    private static int[] state(LitStrangers x) {
+        int[] state = new int[5 + 40];
+        for (int i = 0; i < 3; i++) {
+            state[i] = x.count(2 + i);
+        }
+        state[3] = x.count(14);
+        state[4] = x.count(6);
+        for (int p = 0; p < 10; p++) {
+            for (int what = 2; what < 6; what++) {
+                state[5 + p * 4 + what - 2] = x.of(p, what);
+            }
+        }
+        return state;
+    }
+
+    private static void undoAll() {
+        D.promise(21, "is undone: LIT, DARK, SPENT, DAY, where each is, till when, what each has HEARD");
+        LitStrangers x = Due.coast(0, 1, 2, 3, 4, 5, 6, 7, 8, 9);
+        for (int p = 0; p < 10; p++) {
+            x.hear(p, p == 2 || p == 9 ? 1 : 0);
+            x.talk(p, (p + 1) % 10, 1);
+        }
+        x.terms(0, 7);
+        String[] deeds = {"send 9", "send 0", "light 1", "send 5", "dark", "send 3", "send 4", "dark", "dark", "dark",
+            "send 1", "light 8", "dark", "send 2", "dark", "dark"};
+        int[][] states = new int[deeds.length][];
+        for (int i = 0; i < deeds.length; i++) {
+            if (i % 4 == 0) {
+                states[i] = state(x);
+            }
+            due(deeds[i], 1, Due.orders(x, deeds[i]));
+        }
+        due("all can be undone", 16, x.count(6));
+        for (int i = deeds.length - 1; i >= 0; i--) {
+            String deed = deeds[i];
+            due("undo " + deed, deed.startsWith("send") ? 0 : deed.startsWith("light") ? 1 : 2, x.undo());
+            int[] is = i % 4 == 0 ? state(x) : new int[0];
+            for (int k = 0; k < is.length; k++) {
+                due("behind undoing " + deed + ", " + k, states[i][k], is[k]);
+            }
+        }
+        due("none", -3, x.undo());
     }
 }

@@ -9,6 +9,7 @@ public final class EdgesKeptTest {
         winterFog();
         winterDark();
         winterCrews();
+        winterHeard();
         winterOnPaper();
         drawn();
         imageNumbers();
@@ -16,6 +17,7 @@ public final class EdgesKeptTest {
         backKeeps();
         backKeepsNot();
         backToEmpty();
+        imagesApart();
         countNumbers();
         countRefused();
         countKept();
@@ -581,5 +583,56 @@ public final class EdgesKeptTest {
         x.feed(0, 0, 0, 0, 0);
         x.end(21);
         due("nor do they when it is 0", 0, x.status());
+    }
+
+    private static void winterHeard() {
+        D.promise(32, "n NIGHTS, no more; BARRED by what is HEARD by then");
+        LitStrangers x = Due.here(3);
+        x.terms(1, 0);
+        due("one NIGHT", 1, x.winter(0, 1));
+        due("two", 2, x.winter(0, 2));
+        due("three", 3, x.winter(0, 3));
+        x.hear(1, 1);
+        x.hear(2, 1);
+        Due.rule(x, "bars if heard = 0");
+        due("those who have HEARD nothing are BARRED", 1, x.winter(0, 2));
+        due("the others", 6, x.drawn(0));
+        Due.rule(x, "bars if heard = 1");
+        due("those who have HEARD of it are BARRED", 1, x.winter(0, 2));
+        due("the one who has not", 1, x.drawn(0));
+        Due.rule(x, "bars if heard = 1 and day = 0;bars if heard = 0 and day = 1");
+        due("each on a DAY", 1, x.drawn(0));
+        due("both", 2, x.winter(0, 2));
+        due("then the others", 6, x.drawn(1));
+        x.talk(0, 1, 1);
+        due("who HEARS all then is none", 1, x.winter(0, 2));
+    }
+
+    private static void imagesApart() {
+        D.promise(35, "PEOPLE, LAWS of the same numbers are others in each IMAGE");
+        LitStrangers x = new LitStrangers();
+        x.image(0);
+        x.person(5, 1);
+        Due.rule(x, "lodges 7");
+        x.send(0);
+        x.image(1);
+        x.back(0);
+        x.person(9, 2);
+        Due.rule(x, "lodges 8");
+        x.terms(0, 3);
+        x.send(0);
+        x.image(0);
+        for (int round = 0; round < 2; round++) {
+            x.back(1);
+            due("ROAD", 5, x.of(0, 0));
+            due("LAND", 1, x.of(0, 1));
+            due("till", 5, x.of(0, 4));
+            due("LODGES", 7, x.asks(0, 0, 2));
+            x.back(0);
+            due("ROAD", 9, x.of(0, 0));
+            due("LAND", 2, x.of(0, 1));
+            due("till", 12, x.of(0, 4));
+            due("LODGES", 8, x.asks(0, 0, 2));
+        }
     }
 }

@@ -15,14 +15,19 @@ public final class EdgesPaperTest {
         lastBarred();
         lastFirstRow();
         lastChangesNothing();
+        lastBehindOthers();
         cheapNumbers();
         cheapCosts();
         cheapFirstRow();
+        cheapSpoilt();
         ways();
         waysOfCrews();
         late();
+        lateAgain();
+        lateSpoilt();
         swaps();
         swapsLands();
+        swapsSpoilt();
         crewsNumbers();
         crewsLeast();
         crewsFull();
@@ -31,6 +36,7 @@ public final class EdgesPaperTest {
         hushNumbers();
         hushFewest();
         hushFull();
+        hushOneWay();
         who();
         D.covers(22, 31);
         D.close();
@@ -691,5 +697,137 @@ public final class EdgesPaperTest {
         z.talk(0, 1, 1);
         due("either alone does", 3, z.who(1));
         due("none is REFUSED", 0, x.count(8) + x.status());
+    }
+
+    private static void lastBehindOthers() {
+        D.promise(22, "LAST is what it is, whatever was asked ahead of it");
+        LitStrangers x = new LitStrangers();
+        for (int p = 0; p < 4; p++) {
+            x.person(0, 0);
+        }
+        x.talk(0, 1, 1);
+        for (int round = 0; round < 2; round++) {
+            due("LAST", 3, x.last(NONE));
+            due("TURNS", 1, x.swaps(NONE));
+            due("LAST behind TURNS", 3, x.last(NONE));
+            due("CHEAP", 0, x.cheap(3, NONE));
+            due("LAST behind CHEAP", 3, x.last(NONE));
+            due("HUSH", 1, x.hush(4, 0));
+            due("LAST behind HUSH", 3, x.last(NONE));
+            due("SHARE", 3, x.share(0));
+            due("LAST behind SHARE", 3, x.last(NONE));
+            due("LATE", 2, x.late(3));
+            due("WINTER", 3, x.winter(0, 1) + 2);
+            due("LAST behind a WINTER", 3, x.last(NONE));
+        }
+        LitStrangers y = Due.coast(1, 0, 9);
+        y.talk(1, 2, 1);
+        due("one who TALKS to nobody stays fresh", 2, y.last(NONE));
+        due("behind the second", 2, y.last(0));
+        due("the first", 1, y.last(1));
+        LitStrangers z = Due.coast(1, 0, 9, 1);
+        z.hear(0, 1);
+        z.hear(3, 1);
+        z.talk(1, 2, 1);
+        due("two of WORTH 1 who TALK to nobody stay so", 9, z.last(1));
+    }
+
+    private static void cheapSpoilt() {
+        D.promise(23, "n NIGHTS: by who TALKS to whom");
+        LitStrangers x = Due.coast(0, 0, 0);
+        Due.rule(x, "costs 5 * person + 1");
+        x.talk(0, 1, 1);
+        due("the cheapest two spoil one another", 1 + 11, x.cheap(2, NONE));
+        due("NIGHT 0", 1, x.cheap(2, 0));
+        due("NIGHT 1", 4, x.cheap(2, 1));
+        due("all three", NONE, x.cheap(3, NONE));
+        x.talk(0, 1, 0);
+        due("no more", 1 + 6, x.cheap(2, NONE));
+        x.talk(2, 1, 1);
+        due("others", 1 + 6, x.cheap(2, NONE));
+    }
+
+    private static void lateAgain() {
+        D.promise(25, "in any ROW, however many ways lead to it");
+        due("LAST is 2", 0, Due.coast(0, 1).late(0));
+        due("LAST is 4", 0, Due.coast(0, 1, 2, 3).late(0));
+        due("LAST is 4", 1, Due.coast(0, 1, 2, 3).late(1));
+        due("LAST is 4", 2, Due.coast(0, 1, 2, 3).late(2));
+        LitStrangers x = Due.coast(0, 0, 0);
+        Due.rule(x, "bars if person = 0 and day > 1");
+        due("not on NIGHT 2", 1, x.late(0));
+        due("the others are", 2, x.late(1));
+        due("the others are", 2, x.late(2));
+        Due.rule(x, "bars if person = 2 and (day = 0 or day = 2) or person = 0 and day = 2");
+        due("the only ROW", 1, x.ways(3));
+        due("0 is its first", 0, x.late(0));
+        due("2 its second", 1, x.late(2));
+        due("1 its last", 2, x.late(1));
+        x.force(NONE);
+        due("as ahead of the LAW", 2, x.late(0));
+        x.fog(2, 1);
+        due("two NIGHTS by FOG", 1, x.late(0));
+        x.fog(2, 0);
+        Due.rule(x, "spoils 0;spoils 2 if person = 2;bars if person = 2 and day > 0");
+        x.talk(2, 0, 1);
+        x.talk(2, 1, 1);
+        due("who leaves nobody to go on is in no such ROW", NONE, x.late(2));
+        due("the others are", 1, x.late(0));
+    }
+
+    private static void lateSpoilt() {
+        D.promise(25, "LATE by who TALKS to whom");
+        LitStrangers x = Due.coast(0, 0, 0);
+        due("any last", 2, x.late(0));
+        Due.rule(x, "spoils 2;spoils 0 if person > 0");
+        x.talk(0, 1, 1);
+        due("who SPOILS another goes behind", 2, x.late(0));
+        due("who would be spoilt goes ahead", 1, x.late(1));
+        due("the third is anywhere", 2, x.late(2));
+        x.talk(0, 2, 1);
+        due("now last of all", 2, x.late(0));
+        due("now ahead", 1, x.late(2));
+        due("NIGHTS", 3, x.last(NONE));
+    }
+
+    private static void swapsSpoilt() {
+        D.promise(26, "TURNS by who TALKS to whom");
+        LitStrangers x = Due.coast(0, 0, 0);
+        x.talk(0, 1, 1);
+        due("NIGHTS", 2, x.swaps(NONE));
+        due("NIGHT 0", 1, x.swaps(0));
+        due("NIGHT 1", 4, x.swaps(1));
+        Due.rule(x, "spoils 0");
+        due("by 0", 3, x.swaps(NONE));
+    }
+
+    private static void hushOneWay() {
+        D.promise(30, "if they TALK to nobody: neither SPOIL nor are spoilt");
+        for (int spoiler = 0; spoiler < 2; spoiler++) {
+            LitStrangers x = Due.coast(spoiler, 1 - spoiler, 2);
+            // the spoiler is the only one here this night; the third comes last and matters to nobody
+            Due.rule(x, "spoils 0;spoils 2 if person = " + spoiler);
+            x.talk(0, 1, 1);
+            due("LAST", 1, x.last(NONE));
+            due("one", 1, x.hush(3, 0));
+            due("the lowest", 1, x.hush(3, 1));
+            due("either", 2, x.hush(3, 2));
+            LitStrangers two = Due.coast(spoiler, 1 - spoiler);
+            Due.rule(two, "spoils 0;spoils 2 if person = " + spoiler);
+            two.talk(0, 1, 1);
+            due("of two the lowest", 1, two.hush(2, 1));
+            due("of two either", 2, two.hush(2, 2));
+        }
+        LitStrangers y = Due.coast(0, 1, 1);
+        Due.rule(y, "spoils 0;spoils 1 if person = 0");
+        y.talk(0, 1, 1);
+        y.talk(0, 2, 1);
+        due("two of WORTH 1 are left", 2, y.last(NONE));
+        due("one", 1, y.hush(3, 0));
+        due("the one who SPOILS", 1, y.hush(3, 1));
+        due("no other", 1, y.hush(3, 2));
+        y.send(0);
+        y.light(1);
+        due("who has BEEN there SPOILS nobody more", NONE, y.hush(2, 0));
     }
 }

@@ -22,6 +22,7 @@ public final class EdgesPeopleTest {
         fogDays();
         termsNumbers();
         termsOnTheRoad();
+        termsOfTen();
         D.covers(1, 7);
         D.close();
     }
@@ -380,5 +381,15 @@ public final class EdgesPeopleTest {
         due("all HERE", 4, x.terms(0, 5));
         x.light(7);
         due("BEEN there", 6, x.terms(0, 0));
+    }
+
+    private static void termsOfTen() {
+        D.promise(7, "-3 (DAY, when one is ON THE ROAD): any of ten");
+        LitStrangers x = Due.coast(0, 0, 0, 0, 0, 0, 0, 0, 0, 1);
+        due("all at HOME", 0, x.terms(0, 4));
+        x.send(9);
+        due("the tenth ON THE ROAD", -3, x.terms(0, 5));
+        x.dark();
+        due("the tenth HERE", 5, x.terms(0, 6));
     }
 }

@@ -4,6 +4,13 @@ public final class EdgesTapeTest {
     private static final int NONE = -1;
     /** 5 parts. */
     private static final String FIVE = "takes 1+1+1+1+1;";
+    /** Each token with 1 behind it, if the text may end there. */
+    private static final String[] LAW_TOKENS = {"takes 0", "[ 0", "road 0", "+ 0", "2 0", "] 1", "* 0", "3 1", "% 0",
+        "5 1", "if 0", "not 0", "( 0", "day 0", "< 0", "5 0", "or 0", "fog 0", "= 0", "1 0", ") 1", "and 0", "land 0",
+        "> 0", "0 1", "; 0", "bars 1", "if 0", "[ 0", "mood 0", "- 0", "1 0", "] 0", "/ 0", "2 0", "= 0", "9 1"};
+    private static final String[] ORDER_TOKENS = {"send 0", "worth 0", "0 1", "- 0", "2 1", "times 0", "1 1", "if 0",
+        "( 0", "here 0", "1 0", "= 0", "0 0", ") 1", "or 0", "lit 0", "> 0", "nights 1", "; 0", "dark 1", "times 0",
+        "2 1", "if 0", "done 0", "< 0", "spent 1", "; 0", "light 0", "1 1", "if 0", "day 0", "< 0", "0 1"};
 
     public static void main(String[] args) {
         feedBytes();
@@ -22,9 +29,12 @@ public final class EdgesTapeTest {
         parts();
         brackets();
         fullTape();
+        endOfLaw();
+        manyTexts();
         ordersEmpty();
         ordersNumbers();
         ordersLimits();
+        endOfOrders();
         ordersBroken();
         ordersAsked();
         ordersWholly();
@@ -376,6 +386,57 @@ public final class EdgesTapeTest {
         noLaw("bars if " + many("not ", 98), 400);
         aLaw("takes 7 if " + many("not ", 96) + "1=1", 7);
         noLaw("takes " + many("[", 394), 14);
+    }
+
+    /** Whatever stands ahead, the text may end or not, and a sign of no language can't go on. */
+    private static void endings(String[] tokens, boolean ordering) {
+        StringBuilder text = new StringBuilder();
+        for (String token : tokens) {
+            text.append(token, 0, token.length() - 2).append(' ');
+            boolean whole = token.endsWith("1");
+            String bare = text.substring(0, text.length() - 1);
+            ending(bare, whole ? NONE : bare.length(), ordering);
+            ending(text.toString(), whole ? NONE : text.length(), ordering);
+            ending(text + "?", text.length(), ordering);
+            ending(text + "a b", text.length(), ordering);
+        }
+    }
+
+    private static void ending(String text, int fault, boolean ordering) {
+        LitStrangers x = Due.coast(0, 0);
+        int answer = ordering ? Due.orders(x, text) : Due.law(x, text);
+        due("whether " + text + " is read", fault == NONE ? 0 : 1, answer == -6 ? 1 : 0);
+        due("FAULT of " + text, fault, x.fault());
+    }
+
+    private static void endOfLaw() {
+        D.promise(12, "FAULT: the first TOKEN that can't go on there (the end's: the TEXT's length)");
+        endings(LAW_TOKENS, false);
+        noLaw("takesz 5", 0);
+        noLaw("ztakes 5", 0);
+        noLaw("atakes 5", 0);
+        aLaw("takes 1/0;takes 5", 5);
+        aLaw("takes 5 if not(not 1=1)", 5);
+        aLaw("takes 5 if not(not(not 1=2))", 5);
+        aLaw("takes 5 if not(1=1) or 1=1", 5);
+    }
+
+    private static void endOfOrders() {
+        D.promise(13, "FAULT: the first TOKEN that can't go on there (the end's: the TEXT's length)");
+        endings(ORDER_TOKENS, true);
+    }
+
+    private static void manyTexts() {
+        D.promise(12, "12 CLAUSES, 50 PARTS, of each TEXT");
+        LitStrangers x = Due.coast(30);
+        x.image(0);
+        for (int i = 0; i < 12; i++) {
+            due("50 PARTS", 0, Due.law(x, "takes 1" + many("+1", 41) + " if 1=1 and 2=1+1 and not 3=4+" + i % 2));
+            x.force(0);
+            due("what it tells, " + i, 42, x.asks(0, 0, 0));
+            x.back(0);
+            due("a TEXT that can't be", -6, Due.law(x, many("bars if 1=1;", 12) + "bars"));
+        }
     }
 
     private static void noOrders(String text, int fault) {
