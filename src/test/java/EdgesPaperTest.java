@@ -28,6 +28,7 @@ public final class EdgesPaperTest {
         swaps();
         swapsLands();
         swapsSpoilt();
+        rowsThatMeet();
         crewsNumbers();
         crewsLeast();
         crewsFull();
@@ -829,5 +830,54 @@ public final class EdgesPaperTest {
         y.send(0);
         y.light(1);
         due("who has BEEN there SPOILS nobody more", NONE, y.hush(2, 0));
+    }
+
+    /** The first spoils others so that two of them make one crew: the same people light it for fewer nights. */
+    private static LitStrangers meeting(int... lands) {
+        LitStrangers x = new LitStrangers();
+        for (int land : lands) {
+            x.person(0, land);
+        }
+        Due.rule(x, "spoils 0;spoils 1 if person = 0");
+        return x;
+    }
+
+    private static void dueRow(LitStrangers x, boolean turns, int... crews) {
+        due("how many NIGHTS", crews.length, turns ? x.swaps(NONE) : x.last(NONE));
+        for (int i = 0; i < crews.length; i++) {
+            due("NIGHT " + i, crews[i], turns ? x.swaps(i) : x.last(i));
+        }
+        due("behind the last", NONE, turns ? x.swaps(crews.length) : x.last(crews.length));
+    }
+
+    private static void rowsThatMeet() {
+        D.promise(26, "the first such ROW, though the same PEOPLE make a shorter one ahead of it");
+        LitStrangers x = meeting(0, 1, 2, 3);
+        x.talk(0, 1, 1);
+        x.talk(0, 2, 1);
+        dueRow(x, true, 2, 4, 1, 8);
+        LitStrangers y = meeting(2, 0, 1, 2, 3, 0, 1);
+        for (int other = 1; other < 5; other++) {
+            y.talk(0, other, 1);
+        }
+        dueRow(y, true, 2, 4, 8, 16, 1, 32, 64);
+        LitStrangers z = meeting(1, 0, 1, 2);
+        z.talk(0, 1, 1);
+        z.talk(0, 2, 1);
+        dueRow(z, true, 2, 4, 8, 1);
+        D.promise(22, "the first ROW, though the same PEOPLE make a shorter one ahead of it");
+        dueRow(x, false, 2, 4, 1, 8);
+        dueRow(y, false, 2, 4, 8, 16, 1, 32, 64);
+        D.promise(23, "the first ROW, though the same PEOPLE make a shorter one ahead of it");
+        due("COSTS", 0, x.cheap(4, NONE));
+        due("NIGHT 0", 2, x.cheap(4, 0));
+        due("NIGHT 2", 1, x.cheap(4, 2));
+        due("NIGHT 3", 8, x.cheap(4, 3));
+        due("three NIGHTS", 1, x.cheap(3, 0));
+        due("by two of WORTH 1", 6, x.cheap(3, 1));
+        D.promise(25, "LATE, though the same PEOPLE make a shorter ROW");
+        due("who SPOILS the two", 3, x.late(0));
+        due("who is spoilt", 2, x.late(1));
+        due("who is not", 3, x.late(3));
     }
 }
