@@ -10,6 +10,7 @@ public final class EdgesKeptTest {
         winterDark();
         winterCrews();
         winterHeard();
+        winterHeardAll();
         winterOnPaper();
         drawn();
         imageNumbers();
@@ -21,6 +22,7 @@ public final class EdgesKeptTest {
         countNumbers();
         countRefused();
         countKept();
+        countOfMany();
         statusOfEach();
         statusOfOthers();
         D.covers(32, 37);
@@ -634,5 +636,36 @@ public final class EdgesKeptTest {
             due("till", 12, x.of(0, 4));
             due("LODGES", 8, x.asks(0, 0, 2));
         }
+    }
+
+    private static void winterHeardAll() {
+        D.promise(32, "2 at most: who has HEARD all stays so, whoever lights it then");
+        LitStrangers x = Due.coast(0, 1, 2, 2);
+        x.terms(1, 0);
+        Due.rule(x, "spoils 2");
+        x.talk(0, 2, 1);
+        x.talk(0, 3, 1);
+        int[] crews = {1, 2, 0, 0};
+        due("LIT", 2, x.winter(0, 60));
+        for (int k = 0; k < crews.length; k++) {
+            due("NIGHT " + k, crews[k], x.drawn(k));
+        }
+        Due.rule(x, "spoils 1");
+        due("of WORTH 1 they light it together", 3, x.winter(0, 60));
+        due("NIGHT 2", 12, x.drawn(2));
+    }
+
+    private static void countOfMany() {
+        D.promise(36, "how many calls were REFUSED: all but one of 512");
+        LitStrangers x = new LitStrangers();
+        int[] by = {-1, -2, -3, -6};
+        for (int i = 0; i < 508; i++) {
+            int answer = i % 4 == 0 ? x.image(2) : i % 4 == 1 ? x.back(1) : i % 4 == 2 ? x.undo() : x.row();
+            due("call " + i, by[i % 4], answer);
+        }
+        due("by -1", 127, x.count(8));
+        due("by -3", 127, x.count(10));
+        due("by -5", 0, x.count(11));
+        due("by -6", 127, x.count(12));
     }
 }

@@ -29,6 +29,7 @@ public final class EdgesPaperTest {
         swapsLands();
         swapsSpoilt();
         rowsThatMeet();
+        heardAllStays();
         crewsNumbers();
         crewsLeast();
         crewsFull();
@@ -879,5 +880,58 @@ public final class EdgesPaperTest {
         due("who SPOILS the two", 3, x.late(0));
         due("who is spoilt", 2, x.late(1));
         due("who is not", 3, x.late(3));
+    }
+
+    /** The first lets those who come last hear all; whoever lights it between tells them nothing. */
+    private static void heardAllStays() {
+        D.promise(22, "2 at most: who has HEARD all stays so, whoever lights it then");
+        LitStrangers x = Due.coast(0, 1, 2, 2);
+        Due.rule(x, "spoils 2");
+        x.talk(0, 2, 1);
+        x.talk(0, 3, 1);
+        dueRow(x, false, 1, 2);
+        D.promise(23, "2 at most, on paper");
+        due("COSTS of two NIGHTS", 1, x.cheap(2, NONE));
+        due("three NIGHTS", NONE, x.cheap(3, NONE));
+        D.promise(24, "2 at most, on paper");
+        due("two NIGHTS", 1, x.ways(2));
+        due("three NIGHTS", 0, x.ways(3));
+        D.promise(25, "2 at most, on paper");
+        due("who has HEARD all", NONE, x.late(2));
+        due("who has not", 1, x.late(1));
+        D.promise(26, "2 at most, on paper");
+        dueRow(x, true, 1, 2);
+        D.promise(28, "2 at most, on paper");
+        due("who SPOILS", 2, x.share(0));
+        due("who has HEARD all", 0, x.share(2));
+        D.promise(30, "2 at most, on paper");
+        due("the fewest", 1, x.hush(3, 0));
+        due("the one who SPOILS", 1, x.hush(4, 1));
+        due("or one who is spoilt", 3, x.hush(3, 2));
+        D.promise(31, "2 at most, on paper");
+        due("those without whom it is as before", 12, x.who(2));
+        D.promise(22, "2 at most, by each of a CREW in order");
+        for (int teller = 0; teller < 2; teller++) {
+            LitStrangers y = Due.coast(0, 0, 1, 1);
+            Due.rule(y, "spoils 2");
+            y.hear(0, 1);
+            y.hear(1, 1);
+            y.talk(teller, 2, 1);
+            y.talk(teller, 3, 1);
+            dueRow(y, false, 3);
+            y.talk(1 - teller, 3, 1);
+            dueRow(y, false, 3);
+        }
+        LitStrangers z = Due.coast(0, 0, 1, 1);
+        z.hear(0, 1);
+        z.hear(1, 1);
+        for (int one = 0; one < 2; one++) {
+            z.talk(one, 2, 1);
+            z.talk(one, 3, 1);
+        }
+        dueRow(z, false, 3);
+        z.talk(1, 3, 0);
+        z.talk(0, 2, 0);
+        dueRow(z, false, 3, 12);
     }
 }
