@@ -29,6 +29,7 @@ public final class EdgesPaperTest {
         swapsLands();
         swapsSpoilt();
         rowsThatMeet();
+        rowsThatMeetAgain();
         heardAllStays();
         crewsNumbers();
         crewsLeast();
@@ -933,5 +934,32 @@ public final class EdgesPaperTest {
         z.talk(1, 3, 0);
         z.talk(0, 2, 0);
         dueRow(z, false, 3, 12);
+    }
+
+    private static void rowsThatMeetAgain() {
+        D.promise(26, "the first such ROW: the same PEOPLE a NIGHT earlier, by a CREW of other LANDS");
+        LitStrangers x = meeting(0, 1, 3, 0);
+        x.talk(0, 2, 1);
+        x.talk(0, 3, 1);
+        // of lands 1, 0, 3, 0; behind 1 and 0 the two others, of lands 3 and 0, could only light it together
+        dueRow(x, true, 2, 8, 4, 1);
+        D.promise(25, "in any ROW: the same PEOPLE a NIGHT earlier and a NIGHT later, in FOG");
+        int[][] people = {{0, 0}, {3, 0}, {1, 0}, {0, 1}, {1, 0}, {0, 3}};
+        LitStrangers y = new LitStrangers();
+        for (int[] one : people) {
+            y.person(one[0], one[1]);
+        }
+        Due.rule(y, "spoils 0;spoils 1 if person = 4;spoils 1 if person = 3");
+        int[][] talks = {{0, 4}, {2, 4}, {3, 2}, {5, 4}, {3, 5}};
+        for (int[] two : talks) {
+            y.talk(two[0], two[1], 1);
+        }
+        y.fog(1, 1);
+        y.fog(4, 1);
+        due("LAST", 4, y.last(NONE));
+        int[] late = {2, 3, 1, 3, 3, 1};
+        for (int p = 0; p < late.length; p++) {
+            due("late(" + p + ")", late[p], y.late(p));
+        }
     }
 }
